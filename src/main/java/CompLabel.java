@@ -21,7 +21,7 @@ public final class CompLabel {
 
     private final int width;
     private final int height;
-    private final boolean[] black = new boolean[PLACES];
+    private final boolean[] blackAt = new boolean[PLACES];
 
     // What survey() finds, kept in step with the picture. "Part" means a component or a region.
     private int componentCount;
@@ -49,7 +49,7 @@ public final class CompLabel {
             return false;
         }
         int place = placeOf(x, y);
-        this.black[place] = black;
+        blackAt[place] = black;
         survey();
         return true;
     }
@@ -64,7 +64,7 @@ public final class CompLabel {
         for (int row = y; row < y + high; row++) {
             for (int column = x; column < x + wide; column++) {
                 int place = placeOf(column, row);
-                black[place] = !black[place];
+                blackAt[place] = !blackAt[place];
             }
         }
         survey();
@@ -72,7 +72,7 @@ public final class CompLabel {
     }
 
     public boolean isBlack(int x, int y) {
-        return inPicture(x, y) && black[placeOf(x, y)];
+        return inPicture(x, y) && blackAt[placeOf(x, y)];
     }
 
     public int components() {
@@ -89,7 +89,7 @@ public final class CompLabel {
             return BAD;
         }
         int place = placeOf(x, y);
-        return black[place] ? partNumber[place] : NONE;
+        return blackAt[place] ? partNumber[place] : NONE;
     }
 
     public int area(int k) {
@@ -177,7 +177,7 @@ public final class CompLabel {
     }
 
     private boolean inComponent(int place, int k) {
-        return black[place] && partNumber[place] == k;
+        return blackAt[place] && partNumber[place] == k;
     }
 
     private void survey() {
@@ -193,13 +193,13 @@ public final class CompLabel {
             if (partNumber[place] != UNMARKED) {
                 continue;
             }
-            if (black[place]) {
+            if (blackAt[place]) {
                 componentStart[componentCount] = place;
-                markPart(black, partNumber, place, componentCount);
+                markPart(blackAt, partNumber, place, componentCount);
                 componentCount++;
             } else {
                 regionStart[regionCount] = place;
-                markPart(black, partNumber, place, regionCount);
+                markPart(blackAt, partNumber, place, regionCount);
                 regionCount++;
             }
         }
@@ -208,10 +208,10 @@ public final class CompLabel {
     private void measureDepths() {
         unmarkAll(depthAt);
         unmarkAll(outerNeighbour);
-        markPart(black, depthAt, OUTSIDE, 0);
+        markPart(blackAt, depthAt, OUTSIDE, 0);
         // Nothing lies farther out than the outer region: it points to itself, so that every entry
         // is a place.
-        markPart(black, outerNeighbour, OUTSIDE, OUTSIDE);
+        markPart(blackAt, outerNeighbour, OUTSIDE, OUTSIDE);
         // A straight way from the margin has fewer than SIDE moves, so no depth comes up to SIDE.
         for (int level = 1; level < SIDE; level++) {
             for (int place = 0; place < PLACES; place++) {
@@ -220,8 +220,8 @@ public final class CompLabel {
                 }
                 int neighbour = besideOfDepth(place, level - 1);
                 if (neighbour != OFF_GRID) {
-                    markPart(black, depthAt, place, level);
-                    markPart(black, outerNeighbour, place, neighbour);
+                    markPart(blackAt, depthAt, place, level);
+                    markPart(blackAt, outerNeighbour, place, neighbour);
                 }
             }
         }

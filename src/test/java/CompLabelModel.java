@@ -32,10 +32,10 @@ public final class CompLabelModel {
     }
 
     private static void everySmallPicture() {
+        Model model = new Model(4, 4);
         for (int bits = 0; bits < 1 << 16; bits++) {
-            Model model = new Model(4, 4);
             for (int at = 0; at < 16; at++) {
-                model.pixel[at / 4][at % 4] = (bits >> at & 1) == 1;
+                model.set(at % 4, at / 4, (bits >> at & 1) == 1);
             }
             compareAll(model);
         }
@@ -57,7 +57,7 @@ public final class CompLabelModel {
         int percent = 10 + random.nextInt(81);
         for (int y = 0; y < model.height; y++) {
             for (int x = 0; x < model.width; x++) {
-                model.pixel[y][x] = random.nextInt(100) < percent;
+                model.set(x, y, random.nextInt(100) < percent);
             }
         }
     }
@@ -80,24 +80,29 @@ public final class CompLabelModel {
         }
     }
 
+    // Run by run and not pixel by pixel: fewer calls of the 512.
     private static CompLabel drawn(Model model) {
         CompLabel picture = new CompLabel(model.width, model.height);
         for (int y = 0; y < model.height; y++) {
             for (int x = 0; x < model.width; x++) {
-                if (model.pixel[y][x]) {
-                    picture.set(x, y, true);
+                int end = x;
+                while (model.isBlack(end, y)) {
+                    end++;
+                }
+                if (end > x) {
+                    picture.invert(x, y, end - x, 1);
+                    x = end;
                 }
             }
         }
         return picture;
     }
 
-    // Two objects, because one is promised for 512 calls only.
     private static void compareAll(Model model) {
         String where = model.toString();
-        model.survey();
         CompLabel first = drawn(model);
-        CompLabel second = drawn(model);
+        // One object would not do for a great picture, as it is promised for 512 calls only.
+        CompLabel second = model.width * model.height <= 64 ? first : drawn(model);
         due(where, "components()", first.components(), model.components());
         due(where, "euler()", first.euler(), model.euler());
         for (int y = 0; y < model.height; y++) {
@@ -177,9 +182,10 @@ public final class CompLabelModel {
 
         final int width;
         final int height;
-        final boolean[][] pixel;
+        private final boolean[][] pixel;
         private final int gridWidth;
         private final int places;
+        private final int[][] candidates;
         private boolean surveyed;
         private int[] part;
         private int[] depth;
@@ -192,6 +198,10 @@ public final class CompLabelModel {
             pixel = new boolean[height][width];
             gridWidth = width + 2 * MARGIN;
             places = gridWidth * (height + 2 * MARGIN);
+            candidates = new int[places][];
+            for (int place = 0; place < places; place++) {
+                candidates[place] = candidatesFor(place);
+            }
         }
 
         private int xOf(int place) {
@@ -230,7 +240,7 @@ public final class CompLabelModel {
         }
 
         // All places that can be near one; the terms above then say which of them are.
-        private int[] candidates(int place) {
+        private int[] candidatesFor(int place) {
             int[] found = new int[9];
             int count = 0;
             for (int row = -1; row <= 1; row++) {
@@ -246,7 +256,7 @@ public final class CompLabelModel {
             return Arrays.copyOf(found, count);
         }
 
-        void survey() {
+        private void survey() {
             if (surveyed) {
                 return;
             }
@@ -265,7 +275,7 @@ public final class CompLabelModel {
             for (boolean changed = true; changed; ) {
                 changed = false;
                 for (int place = 0; place < places; place++) {
-                    for (int other : candidates(place)) {
+                    for (int other : candidates[place]) {
                         if (part[other] < part[place] && step(place, other)) {
                             part[place] = part[other];
                             changed = true;
@@ -298,7 +308,7 @@ public final class CompLabelModel {
             for (boolean changed = true; changed; ) {
                 changed = false;
                 for (int place = 0; place < places; place++) {
-                    for (int from : candidates(place)) {
+                    for (int from : candidates[place]) {
                         int reached = places;
                         if (step(from, place)) {
                             reached = depth[from];
@@ -386,7 +396,7 @@ public final class CompLabelModel {
                 if (part[place] != componentPart[k]) {
                     continue;
                 }
-                for (int other : candidates(place)) {
+                for (int other : candidates[place]) {
                     if (!blackAt(other) && beside(place, other) && depth[place] == depth[other] - 1) {
                         hole[part[other]] = true;
                     }
@@ -447,7 +457,7 @@ public final class CompLabelModel {
                     if (!kept[place]) {
                         continue;
                     }
-                    for (int other : candidates(place)) {
+                    for (int other : candidates[place]) {
                         if (beside(place, other) && !kept[other] && part[other] != componentPart[k]) {
                             kept[place] = false;
                             changed = true;

@@ -142,7 +142,8 @@ public final class CompLabelPromises {
             {-1, 0, 1, 1}, {5, 0, 1, 1}, {0, -1, 1, 1}, {0, 3, 1, 1}, {MIN, 0, 1, 1}, {0, MAX, 1, 1},
             {0, 0, 0, 1}, {0, 0, 1, 0}, {0, 0, -1, 1}, {0, 0, 1, -1}, {0, 0, 6, 1}, {0, 0, 1, 4},
             {4, 0, 2, 1}, {0, 2, 1, 2}, {2, 1, 4, 1}, {2, 1, 1, 3}, {0, 0, MAX, 1}, {0, 0, 1, MAX},
-            {1, 1, MAX, MAX}, {0, 0, MIN, 1}, {0, 0, 1, MIN}, {-1, 0, 2, 1}, {0, -1, 1, 2}, {5, 0, 0, 1},
+            {1, 1, MAX, MAX}, {1, 0, MAX, 1}, {0, 1, 1, MAX},
+            {0, 0, MIN, 1}, {0, 0, 1, MIN}, {-1, 0, 2, 1}, {0, -1, 1, 2}, {5, 0, 0, 1},
             {MIN, MIN, MIN, MIN}, {MAX, MAX, MAX, MAX},
         };
         for (int[] r : refused) {
@@ -180,6 +181,8 @@ public final class CompLabelPromises {
         due(5, "components() of a dot", draw("..", ".#").components(), 1);
         due(5, "components() of a diagonal", draw("#..", ".#.", "..#").components(), 1);
         due(5, "components() of a counter-diagonal", draw("..#", ".#.", "#..").components(), 1);
+        due(5, "components() of a hook to the left", draw("...#", "#.#.", ".#..").components(), 1);
+        due(5, "components() of a hook to the right", draw("#...", ".#.#", "..#.").components(), 1);
         due(5, "components() with gaps", draw("#.#", "...", "#.#").components(), 4);
         due(5, "components() across row ends", draw("..#", "#..").components(), 2);
         due(5, "components() of speckled", draw(SPECKLED).components(), 2);
