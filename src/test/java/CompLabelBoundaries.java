@@ -684,6 +684,8 @@ public final class CompLabelBoundaries {
     private static void newAllWhite() {
         forEachSize((width, height) -> {
             Picture picture = new Picture(width, height);
+            picture.components(0);
+            picture.euler(0);
             for (int y = 0; y < height; y++) {
                 for (int x = 0; x < width; x++) {
                     picture.isBlack(x, y, false);
@@ -916,9 +918,12 @@ public final class CompLabelBoundaries {
                 }
             }
             picture.area(0, width * height - 1);
+            picture.depth(width - 1, 0, 0);
+            picture.depth(0, height - 1, 1);
             picture.invert(0, 0, width, height, true);
             picture.area(0, 1);
-            picture.label(width - 1, 0, 0);
+            picture.depth(width - 1, 0, 1);
+            picture.depth(0, height - 1, 0);
         });
     }
 
