@@ -699,7 +699,9 @@ public final class CompLabelBoundaries {
     // Promise 2: x outside 0..W-1 or y outside 0..H-1 is refused; a refused call changes nothing.
 
     private static int[] outside(int side) {
-        return new int[] {-1, -2, side, side + 1, -side, GREATEST + 1, GREATEST + 2, 196, 256, 65536, MIN, MIN + 1, MAX - 1, MAX};
+        return new int[] {
+            -1, -2, -side, side, side + 1, GREATEST + 1, GREATEST + 2, 196, 256, 65536, MIN, MIN + 1, MAX - 1, MAX,
+        };
     }
 
     private static void setOutsideX() {
