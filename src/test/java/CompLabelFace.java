@@ -38,18 +38,37 @@ public final class CompLabelFace {
                 System.out.println("not in the document: " + member);
             }
         }
-        int modifiers = CompLabel.class.getModifiers();
-        if (!Modifier.isPublic(modifiers) || !Modifier.isFinal(modifiers)) {
+        if (!CompLabel.class.toGenericString().equals("public final class CompLabel")) {
             wrong++;
-            System.out.println("the class isn't public and final");
+            System.out.println("the class is: " + CompLabel.class.toGenericString());
         }
-        if (CompLabel.BAD != -1 || CompLabel.NONE != -2) {
+        // What it inherits or holds could be seen from outside as well.
+        boolean standsAlone = CompLabel.class.getSuperclass() == Object.class
+            && CompLabel.class.getInterfaces().length == 0
+            && CompLabel.class.getDeclaredClasses().length == 0;
+        if (!standsAlone) {
+            wrong++;
+            System.out.println("the class has a parent, an interface or a nested class");
+        }
+        if (!nameOf(-1).equals("BAD") || !nameOf(-2).equals("NONE")) {
             wrong++;
             System.out.println("BAD is " + CompLabel.BAD + " and NONE is " + CompLabel.NONE);
         }
         System.out.println(wrong == 0 ? "the face is as due" : wrong + " faults of the face");
         if (wrong != 0) {
             System.exit(1);
+        }
+    }
+
+    // Case labels: this compiles only if both are constants to the compiler, as the face has them.
+    private static String nameOf(int answer) {
+        switch (answer) {
+            case CompLabel.BAD:
+                return "BAD";
+            case CompLabel.NONE:
+                return "NONE";
+            default:
+                return "neither";
         }
     }
 

@@ -16,6 +16,8 @@ public final class CompLabelModel {
         Random random = new Random(20261115L);
         greaterPictures(random);
         mixedCalls(random);
+        mixedCallsByTurns(random);
+        callsPastTheLast(random);
         System.out.println(wrong == 0 ? "all answers are as due" : wrong + " answers are not as due");
         if (wrong != 0) {
             System.exit(1);
@@ -131,6 +133,43 @@ public final class CompLabelModel {
             for (int call = 0; call < CALLS; call++) {
                 mixedCall(where + ", call " + call, picture, model, random);
             }
+        }
+    }
+
+    // What one object is told must not show in another.
+    private static void mixedCallsByTurns(Random random) {
+        int[][] sizes = {{12, 12}, {12, 12}, {7, 5}, {5, 7}, {2, 2}};
+        CompLabel[] pictures = new CompLabel[sizes.length];
+        Model[] models = new Model[sizes.length];
+        for (int at = 0; at < sizes.length; at++) {
+            pictures[at] = new CompLabel(sizes[at][0], sizes[at][1]);
+            models[at] = new Model(sizes[at][0], sizes[at][1]);
+        }
+        for (int call = 0; call < CALLS; call++) {
+            for (int at = 0; at < sizes.length; at++) {
+                mixedCall("by turns, object " + at + ", call " + call, pictures[at], models[at], random);
+            }
+        }
+    }
+
+    // Answers after call 512 are free, but the language's rules still forbid a call to throw.
+    private static void callsPastTheLast(Random random) {
+        CompLabel picture = new CompLabel(12, 12);
+        for (int round = 0; round < CALLS; round++) {
+            int x = coordinate(random, 12);
+            int y = coordinate(random, 12);
+            int k = coordinate(random, 12);
+            picture.set(x, y, random.nextBoolean());
+            picture.invert(x, y, coordinate(random, 13), coordinate(random, 13));
+            picture.isBlack(x, y);
+            picture.components();
+            picture.euler();
+            picture.label(x, y);
+            picture.area(k);
+            picture.holes(k);
+            picture.around(k);
+            picture.depth(x, y);
+            picture.enclosed(k);
         }
     }
 

@@ -43,6 +43,7 @@ public final class CompLabelPromises {
         surrounders();
         depths();
         enclosures();
+        readmeExample();
         System.out.println(wrong == 0 ? "all answers are as due" : wrong + " answers are not as due");
         if (wrong != 0) {
             System.exit(1);
@@ -366,5 +367,26 @@ public final class CompLabelPromises {
         due(12, "enclosed(0) cornerwise closed", lid.enclosed(0), 10);
         lid.set(5, 2, false);
         due(12, "enclosed(0) opened", lid.enclosed(0), 0);
+    }
+
+    // The calls of the README's example, in its order.
+    private static void readmeExample() {
+        CompLabel picture = new CompLabel(5, 5);
+        due(3, "README: invert(0, 0, 5, 5)", picture.invert(0, 0, 5, 5), true);
+        due(3, "README: invert(1, 1, 3, 3)", picture.invert(1, 1, 3, 3), true);
+        due(2, "README: set(2, 2, true)", picture.set(2, 2, true), true);
+        due(2, "README: set(5, 2, true)", picture.set(5, 2, true), false);
+        due(4, "README: isBlack(1, 1)", picture.isBlack(1, 1), false);
+        due(5, "README: components()", picture.components(), 2);
+        due(6, "README: euler()", picture.euler(), 1);
+        due(7, "README: label(2, 2)", picture.label(2, 2), 1);
+        due(7, "README: label(1, 1)", picture.label(1, 1), NONE);
+        due(8, "README: area(0)", picture.area(0), 16);
+        due(9, "README: holes(0)", picture.holes(0), 1);
+        due(10, "README: around(1)", picture.around(1), 0);
+        due(10, "README: around(0)", picture.around(0), NONE);
+        due(11, "README: depth(2, 2)", picture.depth(2, 2), 3);
+        due(12, "README: enclosed(0)", picture.enclosed(0), 9);
+        due(8, "README: area(2)", picture.area(2), BAD);
     }
 }
